@@ -128,6 +128,9 @@ public final class MasonTest {
         x.lift(0, 0);
         x.month(1, 0, 3);
         Check.same("months as they are", x.kinds(0), 4);
+        x.back(2);
+        x.reading(0, 2, 18);
+        Check.same("by the first reading alone", x.kinds(0), 4);
         x.reading(1, 3, 20);
         Check.same("not frosty", x.kinds(1), 3);
         Check.same("stone -1", x.kinds(-1), BreathSquare.UNKNOWN);

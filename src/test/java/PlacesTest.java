@@ -81,6 +81,16 @@ public final class PlacesTest {
         oval("not all in a month", y, 3, 22, 2, 0, 1);
         oval("all alike", Check.laid("q56;s1s1s1s1s1s1;s1s1s1s1s1s1;s1s1s1s1s1s1;s1s1s1s1s1s1;s1s1s1s1s1s1"),
                 0, 0, 30, 0, 29);
+        oval("one, behind a larger one", x, 0, 9, 3, 2, 8);
+        x.lift(8, 20);
+        x.lift(5, 40);
+        x.lift(2, 90);
+        x.lift(1, 9);
+        oval("one, of a square that had a larger one", x, 0, 0, 2, 0, 3);
+        x.lift(0, 3);
+        x.lift(4, 7);
+        x.lift(6, 1);
+        oval("one, behind a larger one", x, 0, 0, 1, 0, 0);
         oval("one", Check.laid("q22;s1s2;s3s4"), 0, 9, 1, 0, 0);
         oval("of several the least first", Check.laid("q32;s0s5;s5s0;s0s0"), 11, 0, 2, 3, 5);
     }

@@ -151,6 +151,13 @@ public final class SquareTest {
         Check.same("taken again", x.square(0, 0, 0, 13), 4);
         Check.same("nothing lifted", x.ofStone(2, 2), 0);
         Check.same("months 0", x.month(3, 0, 0), 0);
+        for (int m = 0; m < 12; m++) {
+            x.month(m, 9, 9);
+        }
+        Check.same("taken again", x.square(0, 0, 0, 13), 4);
+        for (int m = 0; m < 12; m++) {
+            Check.same("month 0 again", x.month(m, 0, 0), 0);
+        }
         Check.same("no readings", x.many(2), 0);
         Check.same("all kinds again", x.kinds(2), 7);
         Check.same("trace goes on", x.trace(), 1);
@@ -248,6 +255,12 @@ public final class SquareTest {
         Check.same("clay: lowest, of two the first", x.rises(1, 1), 9);
         Check.same("frosty: highest", x.rises(2, 0), 7);
         Check.same("frosty: lowest", x.rises(2, 1), 11);
+        for (int m = 0; m < 12; m++) {
+            BreathSquare y = Check.laid(SMALL);
+            y.month(m, 1, 0);
+            Check.same("highest in " + m, y.rises(1, 0), m);
+            Check.same("lowest beside " + m, y.rises(1, 1), m == 0 ? 1 : 0);
+        }
         Check.same("stone 4", x.rises(4, 2), BreathSquare.UNKNOWN);
         Check.same("stone -1", x.rises(-1, 0), BreathSquare.UNKNOWN);
         Check.same("what -1", x.rises(0, -1), BreathSquare.OUTSIDE);

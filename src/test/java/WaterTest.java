@@ -33,6 +33,12 @@ public final class WaterTest {
         Check.same("in a dry one", wet.depth(4, 6), 30);
         Check.same("pool in a wet month", wet.pool(7), 39);
         Check.same("no inner stones", Check.laid("q26;s9s0s9s0s9s0;s9s9s9s9s9s9").pool(0), 0);
+        Check.same("runs off upwards", Check.laid("q33;s9s4s9;s9s1s9;s9s9s9").depth(4, 0), 30);
+        Check.same("runs off to the left", Check.laid("q33;s9s9s9;s4s1s9;s9s9s9").depth(4, 0), 30);
+        Check.same("runs off to the right", Check.laid("q33;s9s9s9;s9s1s4;s9s9s9").depth(4, 0), 30);
+        Check.same("runs off downwards", Check.laid("q33;s9s9s9;s9s1s9;s9s4s9").depth(4, 0), 30);
+        Check.same("largest square", Check.laid("q56" + ";s9s9s9s9s9s9".repeat(2) + ";s9s1s1s1s1s9"
+                + ";s9s9s9s9s9s9".repeat(2)).pool(0), 320);
         BreathSquare snake = Check.laid("q56;s9s9s9s9s9s9;s9s1s9s1s1s9;s9s1s9s1s9s9;s9s1s1s1s9s9;s9s0s9s9s9s9");
         Check.same("all around", snake.pool(0), 0);
         snake.lift(25, 25);
@@ -83,6 +89,8 @@ public final class WaterTest {
         Check.same("from the first month on", x.statue(2, 5, 9), 0);
         Check.same("below one another", x.statue(5, 2, 10), 9);
         Check.same("like stones", x.statue(0, 3, 0), BreathSquare.NONE);
+        Check.same("in the second row", x.statue(4, 5, 9), 0);
+        Check.same("in the second row, stands", x.statue(4, 5, 10), BreathSquare.NONE);
         Check.same("itself", x.statue(1, 1, 0), BreathSquare.STATE);
         Check.same("askew", x.statue(0, 4, 0), BreathSquare.STATE);
         Check.same("end of a row, next one", x.statue(2, 3, 0), BreathSquare.STATE);

@@ -18,6 +18,9 @@ public final class WaysTest {
         row("up and right", x, 6, 2, 0, 6, 3, 0, 1, 2);
         row("down and left", x, 2, 6, 0, 2, 1, 0, 3, 6);
         row("one step", x, 4, 5, 0, 4, 5);
+        BreathSquare largest = Check.laid("q56" + ";s1s1s1s1s1s1".repeat(5));
+        row("largest square", largest, 0, 29, 0, 0, 1, 2, 3, 4, 5, 11, 17, 23, 29);
+        Check.same("largest square: least step", largest.leastStep(29, 0, 0), 0);
     }
 
     /** All that way tells of a way, whose stones are told. */
