@@ -91,6 +91,10 @@ public final class PlacesTest {
         x.lift(4, 7);
         x.lift(6, 1);
         oval("one, behind a larger one", x, 0, 0, 1, 0, 0);
+        BreathSquare z = Check.laid("q22;s1s2;s2s2");
+        oval("not from 0 on", z, 0, 0, 2, 1, 3);
+        z.lift(3, 1);
+        oval("one, behind one not from 0 on", z, 0, 0, 1, 0, 0);
         oval("one", Check.laid("q22;s1s2;s3s4"), 0, 9, 1, 0, 0);
         oval("of several the least first", Check.laid("q32;s0s5;s5s0;s0s0"), 11, 0, 2, 3, 5);
     }

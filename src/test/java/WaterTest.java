@@ -55,6 +55,7 @@ public final class WaterTest {
         Check.same("only told", bowl.ofStone(4, 2), 0);
         Check.same("only told: pool", bowl.pool(0), 30);
         drain("nothing to drain", Check.laid("q22;s0s5;s0s5"), 0, 1, 0, 0);
+        drain("an edge that must not be lifted", Check.laid("q33;s9s1s9;s9s1s9;s9s9s9"), 0, 5, 0, 0);
         BreathSquare two = Check.laid("q34;s9s9s9s9;s9s1s1s7;s9s9s9s9");
         drain("of several the least", two, 0, 10, 5, 110);
         two.lift(5, 99);

@@ -114,6 +114,7 @@ public final class WaysTest {
         Check.same("around", x.leastStep(0, 2, 0), 0);
         Check.same("around and up", x.leastStep(0, 11, 0), 10);
         Check.same("onto the wall", x.leastStep(0, 1, 0), 80);
+        Check.same("off the wall", x.leastStep(1, 0, 0), 80);
         Check.same("along the wall", x.leastStep(1, 5, 0), 0);
         Check.same("by smaller steps", Check.laid("q22;s0s5;s3s6").leastStep(0, 3, 0), 30);
         BreathSquare y = Check.laid("q22;s0f0;s9s0");
