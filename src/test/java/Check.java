@@ -1,5 +1,10 @@
 /** Counts answers that are not as due, and lays squares by their text. */
 final class Check {
+    static final int NULL = 1;
+    static final int CAST = 2;
+    static final int INDEX = 3;
+    static final int SIZE = 4;
+
     private static int asked;
     private static int wrong;
 
@@ -14,8 +19,28 @@ final class Check {
         }
     }
 
+    static void same(String what, String got, String due) {
+        asked++;
+        if (!got.equals(due)) {
+            wrong++;
+            System.out.println(what + " left " + got + ", due is " + due);
+        }
+    }
+
     static void that(String what, boolean holds) {
         same(what, holds ? 1 : 0, 1);
+    }
+
+    /** A call came to a fault of the machine: it answers so, and fault() tells it. */
+    static void faulty(String what, BreathSquare x, int answer, int fault) {
+        same(what, answer, -10 - fault);
+        same(what + " told", x.fault(), fault);
+    }
+
+    /** A cell that is lost: by a fault, or refused, if the fault is 0. */
+    static void lost(String what, BreathSquare x, long answer, int fault) {
+        same(what, answer, BreathSquare.LOST);
+        same(what + " told", x.fault(), fault);
     }
 
     /** Writes a text into a sheet of a sort from i on; the sheet is just long enough. */
@@ -36,6 +61,11 @@ final class Check {
         BreathSquare x = new BreathSquare();
         that("laying " + text, lay(x, text) > 0);
         return x;
+    }
+
+    /** A text of stones that are all alike. */
+    static String alike(int high, int wide, String stone) {
+        return "q" + high + wide + (";" + stone.repeat(wide)).repeat(high);
     }
 
     static void end(String test) {

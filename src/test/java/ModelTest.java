@@ -3,15 +3,20 @@ import java.util.Arrays;
 import java.util.Comparator;
 import java.util.Random;
 
-/** Runs of calls, the same ones in every run of the test, on the class and on Model: all answers are alike. */
+/**
+ * Runs of calls, the same ones in every run of the test, on the class and on Model: all answers are alike,
+ * up to an object's 512th call; what later calls answer is free, but they do not throw.
+ */
 public final class ModelTest {
-    private static final int RUNS = 400;
+    private static final int RUNS = 500;
     private static final int CALLS = 512;
+    private static final int LATER_CALLS = 30;
     private static final int[] ODD = {-1, -2, Integer.MIN_VALUE, Integer.MAX_VALUE, 12, 30, 80, 81, 100, 999, 1000};
 
     private final Random chance;
     private final BreathSquare real = new BreathSquare();
     private final Model model = new Model();
+    private int made;
 
     private ModelTest(long seed) {
         chance = new Random(seed);
@@ -31,7 +36,7 @@ public final class ModelTest {
         if (chance.nextInt(8) != 0) {
             layText();
         }
-        for (int k = 0; k < CALLS; k++) {
+        while (made < CALLS + LATER_CALLS) {
             if (chance.nextInt(80) == 0) {
                 layText();
             }
@@ -40,13 +45,15 @@ public final class ModelTest {
         }
     }
 
-    private Object ask(int seed, String name, Object... numbers) throws ReflectiveOperationException {
+    private void ask(int seed, String name, Object... numbers) throws ReflectiveOperationException {
         Class<?>[] ints = new Class<?>[numbers.length];
         Arrays.fill(ints, int.class);
         Number got = (Number) BreathSquare.class.getDeclaredMethod(name, ints).invoke(real, numbers);
-        Number due = (Number) Model.class.getDeclaredMethod(name, ints).invoke(model, numbers);
-        Check.same("run " + seed + ": " + name + Arrays.toString(numbers), got.longValue(), due.longValue());
-        return got;
+        made++;
+        if (made <= CALLS) {
+            Number due = (Number) Model.class.getDeclaredMethod(name, ints).invoke(model, numbers);
+            Check.same("run " + seed + ": " + name + Arrays.toString(numbers), got.longValue(), due.longValue());
+        }
     }
 
     private void layText() throws ReflectiveOperationException {

@@ -1,7 +1,5 @@
 /** Promises 23 to 33: sheet, lose, put, cell, copy, tell, tread, as, trace, fault, many. */
 public final class SheetsTest {
-    private static final long LOST = BreathSquare.LOST;
-
     public static void main(String[] args) {
         sheet();
         lose();
@@ -16,25 +14,14 @@ public final class SheetsTest {
         Check.end("SheetsTest");
     }
 
-    private static void faulty(String what, BreathSquare x, long answer, int due) {
-        Check.same(what, answer, -10 - due);
-        Check.same(what + " told", x.fault(), due);
-    }
-
-    /** A cell that is lost, by a fault or (0) refused. */
-    private static void lost(String what, BreathSquare x, long answer, int due) {
-        Check.same(what, answer, LOST);
-        Check.same(what + " told", x.fault(), due);
-    }
-
     private static void sheet() {
         BreathSquare x = new BreathSquare();
         for (int k = 0; k < 4; k++) {
             Check.same("empty row", x.sheet(k, k % 3, 0), 1);
-            faulty("no cell", x, x.put(k, 0, 1), 3);
+            Check.faulty("no cell", x, x.put(k, 0, 1), 3);
             Check.same("longest row", x.sheet(k, k % 3, 80), 1);
             Check.same("last cell", x.put(k, 79, 5), 1);
-            faulty("beyond", x, x.put(k, 80, 5), 3);
+            Check.faulty("beyond", x, x.put(k, 80, 5), 3);
             Check.same("a new row", x.sheet(k, k % 3, 80), 1);
             Check.same("is 0", x.cell(k, 79, k % 3), 0);
         }
@@ -45,14 +32,14 @@ public final class SheetsTest {
         Check.same("sort 3", x.sheet(0, 3, 1), BreathSquare.OUTSIDE);
         Check.same("n 81", x.sheet(0, 0, 81), BreathSquare.OUTSIDE);
         Check.same("n most", x.sheet(0, 0, Integer.MAX_VALUE), BreathSquare.OUTSIDE);
-        faulty("n -1", x, x.sheet(0, 2, -1), 4);
-        faulty("n least", x, x.sheet(0, 2, Integer.MIN_VALUE), 4);
+        Check.faulty("n -1", x, x.sheet(0, 2, -1), 4);
+        Check.faulty("n least", x, x.sheet(0, 2, Integer.MIN_VALUE), 4);
         Check.same("nothing changed", x.cell(0, 0, 0), 7);
-        faulty("n -1", x, x.sheet(0, 2, -1), 4);
+        Check.faulty("n -1", x, x.sheet(0, 2, -1), 4);
         Check.same("refused", x.sheet(0, 0, 81), BreathSquare.OUTSIDE);
         Check.same("fault of a refused call", x.fault(), 0);
         Check.same("shorter", x.sheet(0, 0, 1), 1);
-        faulty("beyond a shorter one", x, x.put(0, 1, 1), 3);
+        Check.faulty("beyond a shorter one", x, x.put(0, 1, 1), 3);
         Check.same("longer again", x.sheet(0, 0, 2), 1);
         Check.same("is 0 from the start", x.cell(0, 0, 0) + x.cell(0, 1, 0), 0);
     }
@@ -64,13 +51,13 @@ public final class SheetsTest {
         Check.same("an empty row is something", x.lose(0), 1);
         Check.same("lost", x.lose(0), 0);
         x.sheet(3, 1, 5);
-        faulty("nothing there", x, x.put(0, 0, 0), 1);
+        Check.faulty("nothing there", x, x.put(0, 0, 0), 1);
         Check.same("lose", x.lose(3), 1);
         Check.same("names no faults", x.fault(), 1);
         Check.same("sheet -1", x.lose(-1), BreathSquare.UNKNOWN);
         Check.same("sheet 4", x.lose(4), BreathSquare.UNKNOWN);
         Check.same("names no faults, refused", x.fault(), 1);
-        faulty("nothing there", x, x.put(3, 0, 0), 1);
+        Check.faulty("nothing there", x, x.put(3, 0, 0), 1);
     }
 
     private static void put() {
@@ -90,10 +77,10 @@ public final class SheetsTest {
         }
         Check.same("sheet -1", x.put(-1, -1, 0), BreathSquare.UNKNOWN);
         Check.same("sheet 4", x.put(4, 0, 0), BreathSquare.UNKNOWN);
-        faulty("NULL", x, x.put(3, -1, 0), 1);
-        faulty("INDEX below", x, x.put(0, -1, 9), 3);
-        faulty("INDEX beyond", x, x.put(0, v.length, 9), 3);
-        faulty("INDEX far off", x, x.put(0, Integer.MIN_VALUE, 9), 3);
+        Check.faulty("NULL", x, x.put(3, -1, 0), 1);
+        Check.faulty("INDEX below", x, x.put(0, -1, 9), 3);
+        Check.faulty("INDEX beyond", x, x.put(0, v.length, 9), 3);
+        Check.faulty("INDEX far off", x, x.put(0, Integer.MIN_VALUE, 9), 3);
         Check.same("refused", x.put(4, 0, 0), BreathSquare.UNKNOWN);
         Check.same("fault of a refused call", x.fault(), 0);
     }
@@ -103,16 +90,16 @@ public final class SheetsTest {
         x.sheet(1, 1, 3);
         x.put(1, 2, -300);
         Check.same("cell", x.cell(1, 2, 1), -300);
-        lost("sheet -1", x, x.cell(-1, 0, 3), 0);
-        lost("sheet 4", x, x.cell(4, 0, 0), 0);
-        lost("CAST to bytes", x, x.cell(1, -1, 0), 2);
-        lost("CAST to ints", x, x.cell(1, 2, 2), 2);
-        lost("sort -1", x, x.cell(1, 0, -1), 0);
-        lost("NULL", x, x.cell(0, -1, 0), 1);
-        lost("sort 3 of nothing", x, x.cell(0, 0, 3), 0);
-        lost("nothing is no CAST", x, x.cell(0, 0, 2), 1);
-        lost("INDEX below", x, x.cell(1, -1, 1), 3);
-        lost("INDEX beyond", x, x.cell(1, 3, 1), 3);
+        Check.lost("sheet -1", x, x.cell(-1, 0, 3), 0);
+        Check.lost("sheet 4", x, x.cell(4, 0, 0), 0);
+        Check.lost("CAST to bytes", x, x.cell(1, -1, 0), 2);
+        Check.lost("CAST to ints", x, x.cell(1, 2, 2), 2);
+        Check.lost("sort -1", x, x.cell(1, 0, -1), 0);
+        Check.lost("NULL", x, x.cell(0, -1, 0), 1);
+        Check.lost("sort 3 of nothing", x, x.cell(0, 0, 3), 0);
+        Check.lost("nothing is no CAST", x, x.cell(0, 0, 2), 1);
+        Check.lost("INDEX below", x, x.cell(1, -1, 1), 3);
+        Check.lost("INDEX beyond", x, x.cell(1, 3, 1), 3);
         Check.same("cell", x.cell(1, 0, 1), 0);
         Check.same("no fault", x.fault(), 0);
     }
@@ -158,19 +145,19 @@ public final class SheetsTest {
         Check.same("sheet 4", x.copy(4, 0, 0, 0, 1), BreathSquare.UNKNOWN);
         Check.same("other -1", x.copy(3, 0, -1, 0, 1), BreathSquare.UNKNOWN);
         Check.same("other 4", x.copy(0, 0, 4, 0, 1), BreathSquare.UNKNOWN);
-        faulty("NULL, the first", x, x.copy(3, -1, 0, 0, 1), 1);
-        faulty("NULL, the other", x, x.copy(0, -1, 3, 0, 1), 1);
-        faulty("CAST", x, x.copy(0, -1, 2, 0, 1), 2);
-        faulty("CAST of none", x, x.copy(2, 0, 0, 0, 0), 2);
+        Check.faulty("NULL, the first", x, x.copy(3, -1, 0, 0, 1), 1);
+        Check.faulty("NULL, the other", x, x.copy(0, -1, 3, 0, 1), 1);
+        Check.faulty("CAST", x, x.copy(0, -1, 2, 0, 1), 2);
+        Check.faulty("CAST of none", x, x.copy(2, 0, 0, 0, 0), 2);
         int max = Integer.MAX_VALUE;
         int[][] wrong = {{-1, 0, 1}, {0, -1, 1}, {0, 0, -1}, {0, 0, 5}, {3, 0, 4}, {0, 2, 3}, {7, 0, 0},
             {0, 5, 0}, {-1, 0, 0}, {0, -1, 0}, {max, 0, 1}, {0, max, 1}, {1, 1, max}, {max, max, max},
             {0, 0, Integer.MIN_VALUE}, {6, 0, 1}, {0, 4, 1}};
         for (int[] w : wrong) {
-            faulty("INDEX", x, x.copy(0, w[0], 1, w[1], w[2]), 3);
+            Check.faulty("INDEX", x, x.copy(0, w[0], 1, w[1], w[2]), 3);
         }
         row("nothing changed", x, 1, 0, 0, 0, 0);
-        faulty("CAST", x, x.copy(0, 0, 2, 0, 1), 2);
+        Check.faulty("CAST", x, x.copy(0, 0, 2, 0, 1), 2);
         Check.same("refused", x.copy(0, 0, 4, 0, 1), BreathSquare.UNKNOWN);
         Check.same("fault of a refused call", x.fault(), 0);
     }
@@ -218,15 +205,15 @@ public final class SheetsTest {
                     Check.same("as", x.as(c, kind), 1);
                     Check.same("no fault", x.fault(), 0);
                 } else {
-                    faulty("CAST", x, x.as(c, kind), 2);
+                    Check.faulty("CAST", x, x.as(c, kind), 2);
                 }
             }
         }
-        faulty("CAST", x, x.as(0, 2), 2);
+        Check.faulty("CAST", x, x.as(0, 2), 2);
         Check.same("kind -1", x.as(0, -1), BreathSquare.OUTSIDE);
         Check.same("fault of a refused call", x.fault(), 0);
         Check.same("kind 3", x.as(2, 3), BreathSquare.OUTSIDE);
-        faulty("CAST", x, x.as(0, 2), 2);
+        Check.faulty("CAST", x, x.as(0, 2), 2);
         Check.same("stone -1", x.as(-1, 3), BreathSquare.UNKNOWN);
         Check.same("fault of a refused call", x.fault(), 0);
         Check.same("stone 4", x.as(4, 0), BreathSquare.UNKNOWN);
@@ -234,7 +221,7 @@ public final class SheetsTest {
 
     private static void whoTellsFaults() {
         BreathSquare x = Check.laid("q22;s1c2;f3s4");
-        faulty("CAST", x, x.as(0, 2), 2);
+        Check.faulty("CAST", x, x.as(0, 2), 2);
         x.ofStone(0, 9);
         x.month(0, 1, 1);
         x.month(99, 1, 1);

@@ -111,31 +111,26 @@ public final class SquareTest {
         Check.same("sheet 4", x.square(4, 0, 0, 13), BreathSquare.UNKNOWN);
         Check.same("sort -1", x.square(1, -1, 0, -1), BreathSquare.OUTSIDE);
         Check.same("sort 3", x.square(0, 3, 0, 13), BreathSquare.OUTSIDE);
-        fault(x, "NULL", x.square(1, 2, -1, -1), 1);
-        fault(x, "CAST", x.square(0, 1, -1, -1), 2);
-        fault(x, "SIZE", x.square(0, 0, -1, -1), 4);
-        fault(x, "SIZE", x.square(0, 0, 0, Integer.MIN_VALUE), 4);
-        fault(x, "INDEX: i below 0", x.square(0, 0, -1, 1), 3);
-        fault(x, "INDEX: i below 0, none taken", x.square(0, 0, -1, 0), 3);
-        fault(x, "INDEX: i beyond, none taken", x.square(0, 0, 14, 0), 3);
-        fault(x, "INDEX: one too many", x.square(0, 0, 0, 14), 3);
-        fault(x, "INDEX: one too many", x.square(0, 0, 1, 13), 3);
-        fault(x, "INDEX: wraps", x.square(0, 0, 2, Integer.MAX_VALUE), 3);
-        fault(x, "INDEX: wraps", x.square(0, 0, Integer.MAX_VALUE, Integer.MAX_VALUE), 3);
+        Check.faulty("NULL", x, x.square(1, 2, -1, -1), 1);
+        Check.faulty("CAST", x, x.square(0, 1, -1, -1), 2);
+        Check.faulty("SIZE", x, x.square(0, 0, -1, -1), 4);
+        Check.faulty("SIZE", x, x.square(0, 0, 0, Integer.MIN_VALUE), 4);
+        Check.faulty("INDEX: i below 0", x, x.square(0, 0, -1, 1), 3);
+        Check.faulty("INDEX: i below 0, none taken", x, x.square(0, 0, -1, 0), 3);
+        Check.faulty("INDEX: i beyond, none taken", x, x.square(0, 0, 14, 0), 3);
+        Check.faulty("INDEX: one too many", x, x.square(0, 0, 0, 14), 3);
+        Check.faulty("INDEX: one too many", x, x.square(0, 0, 1, 13), 3);
+        Check.faulty("INDEX: wraps", x, x.square(0, 0, 2, Integer.MAX_VALUE), 3);
+        Check.faulty("INDEX: wraps", x, x.square(0, 0, Integer.MAX_VALUE, Integer.MAX_VALUE), 3);
         Check.same("refused", x.square(0, 3, 0, 13), BreathSquare.OUTSIDE);
         Check.same("fault of a refused call", x.fault(), 0);
-        fault(x, "NULL", x.square(1, 2, 0, 1), 1);
+        Check.faulty("NULL", x, x.square(1, 2, 0, 1), 1);
         Check.same("no text", x.square(0, 0, 1, 12), -100);
         Check.same("FIRST FAULT is no fault of the machine", x.fault(), 0);
         Check.same("nothing was laid", x.many(0), 0);
-        fault(x, "NULL", x.square(1, 2, 0, 1), 1);
+        Check.faulty("NULL", x, x.square(1, 2, 0, 1), 1);
         Check.same("taken", x.square(0, 0, 0, 13), 4);
         Check.same("fault of a text that is taken", x.fault(), 0);
-    }
-
-    private static void fault(BreathSquare x, String what, int answer, int due) {
-        Check.same(what, answer, -10 - due);
-        Check.same(what + " told", x.fault(), due);
     }
 
     private static void anew() {
