@@ -191,6 +191,13 @@ public final class EdgesOfPlacesTest {
         BreathSquare x = Check.laid("q22;s1s2;s3s4");
         oval("no two", x, 9, 1, 0, 0);
         oval("two", x, 10, 2, 0, 1);
+        oval("all", x, 30, 4, 0, 3);
+        oval("no two again", x, 9, 1, 0, 0);
+        oval("two behind the first", Check.laid("q22;s1s2;s3s3"), 0, 2, 2, 3);
+        BreathSquare y = Check.laid("q22;s1s2;s3s3");
+        oval("two behind the first, then", y, 0, 2, 2, 3);
+        y.lift(3, 1);
+        oval("none of two any more", y, 0, 1, 0, 0);
         BreathSquare large = Check.laid("q56;s0s1s0s1s0s1;s1s0s1s0s1s0;s0s1s0s1s0s1;s1s0s1s0s1s0;s0s1s0s1s0s2");
         oval("no two of the largest square", large, 9, 1, 0, 0);
         oval("the last one is too high", large, 10, 25, 0, 28);

@@ -328,6 +328,12 @@ public final class EdgesOfSheetsTest {
             Check.faulty("call " + call, x, answerAndFault[0], answerAndFault[1]);
             Check.same("call " + call, State.of(x), State.of(used()));
         }
+        int[][] sheetCellSortFault = {{3, 0, 0, Check.NULL}, {1, 0, 0, Check.CAST}, {1, 2, 1, Check.INDEX}};
+        for (int[] w : sheetCellSortFault) {
+            BreathSquare x = used();
+            Check.lost("cell", x, x.cell(w[0], w[1], w[2]), w[3]);
+            Check.same("cell by fault " + w[3], State.of(x), State.of(used()));
+        }
     }
 
     private static int[] fault(BreathSquare x, int call) {

@@ -7,6 +7,7 @@ public final class EdgesOfWaterTest {
 
     public static void main(String[] args) {
         edgesAreDry();
+        everyEdgeLetsOff();
         squaresWithoutInnerStones();
         justFull();
         notByACorner();
@@ -51,6 +52,33 @@ public final class EdgesOfWaterTest {
         }
         int inner = (high - 2) * (wide - 2);
         Check.same("pool of " + text, x.pool(0), 30 * inner);
+    }
+
+    /** "it runs off at the SQUARE's edge": by each stone of it, but the corners, which are BESIDE no inner one. */
+    private static void everyEdgeLetsOff() {
+        for (int low = 0; low < 30; low++) {
+            boolean isInRow = low < 6 || low >= 24;
+            boolean isInColumn = low % 6 == 0 || low % 6 == 5;
+            if (isInRow || isInColumn) {
+                BreathSquare x = Check.laid("q56;s8s8s8s8s8s8;s8s0s0s0s0s8;s8s0s0s0s0s8;s8s0s0s0s0s8;s8s8s8s8s8s8");
+                for (int c = 0; c < 30; c++) {
+                    boolean isInner = c / 6 > 0 && c / 6 < 4 && c % 6 > 0 && c % 6 < 5;
+                    x.lift(c, isInner || c == low ? 0 : 15);
+                }
+                Check.same("the low one is dry: " + low, x.depth(low, 0), 0);
+                int level = isInRow && isInColumn ? 95 : 80;
+                Check.same("runs off by " + low, x.pool(0), 12 * level);
+                Check.same("runs off by " + low + ": far inside", x.depth(14, 0), level);
+            }
+        }
+        for (int low : new int[] {0, 1, 2, 3, 5, 6, 7, 8}) {
+            BreathSquare x = Check.laid(Check.alike(3, 3, "s9"));
+            for (int c = 0; c < 9; c++) {
+                x.lift(c, c == low ? 0 : 99);
+            }
+            Check.same("a low one among high ones", x.depth(low, 0), 0);
+            Check.same("a low one among high ones: pool", x.pool(0), 0);
+        }
     }
 
     /** Two rows, two columns are all edge. */
@@ -188,6 +216,7 @@ public final class EdgesOfWaterTest {
     private static void nothingToDrain() {
         drain("no inner stone", Check.laid("q22;s0s9;s9s0"), 99, 0, 0);
         drain("a dry one", Check.laid("q33;s1s1s1;s1s1s1;s1s1s1"), 99, 0, 0);
+        drain("stone 1 lets off", Check.laid("q33;s9s1s9;s9s1s9;s9s9s9"), 99, 0, 0);
         drain("one that lies lower makes no pool of stone 0", Check.laid("q33;s0s1s1;s0s0s1;s1s1s1"), 99, 0, 0);
     }
 

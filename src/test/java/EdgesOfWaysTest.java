@@ -51,6 +51,12 @@ public final class EdgesOfWaysTest {
         Check.same("held, one more", x.holds(0, 2, 0, 0, 4), NONE);
         x.lift(2, 0);
         Check.same("like heights, step 0", x.way(0, 2, 0, 0, -1), 1);
+        BreathSquare y = Check.laid("q24;s1s1s2s4;s1s9s9s9");
+        int[] stones = {4, 0, 1, 2, 3};
+        for (int q = 0; q < stones.length; q++) {
+            Check.same("steps of 0, 0, 10, 20 by 20", y.way(4, 3, 0, 20, q), stones[q]);
+        }
+        Check.same("steps of 0, 0, 10, 20 by 19", y.way(4, 3, 0, 19, -1), NONE);
     }
 
     /** "a STEP (0 .. 999)" */
