@@ -7,6 +7,8 @@ public final class BreathSquare {
     private static final int MONTHS = 12, MOST_STONES = 30, SIDES = 4, KINDS = 3;
     private static final int SHEETS = 4, SORTS = 3, MOST_CELLS = 80, MOST_READINGS = 10;
     private static final int MOST_LIFTED = 99, MOST_APART = 999, MOST_PICKED = 9, MOST_NIGHTS = 500;
+    /** Above every step and every height, lifted ones too. */
+    private static final int ABOVE_ALL = 1000000;
 
     private final Trace traces = new Trace();
     private final Paving paving = new Paving();
@@ -802,7 +804,7 @@ public final class BreathSquare {
         /** Each pass carries least steps at least one stone on, so one for each stone is enough. */
         int leastBetween(int from, int to) {
             for (int c = 0; c < paving.stones(); c++) {
-                steps[c] = Integer.MAX_VALUE;
+                steps[c] = ABOVE_ALL;
             }
             steps[from] = 0;
             boolean changed = true;
@@ -948,7 +950,7 @@ public final class BreathSquare {
         /** Water falls from above all stones; each pass carries the edge's pull one stone on. */
         void settle() {
             for (int c = 0; c < paving.stones(); c++) {
-                levels[c] = paving.isAtEdge(c) ? heights[c] : Integer.MAX_VALUE;
+                levels[c] = paving.isAtEdge(c) ? heights[c] : ABOVE_ALL;
             }
             boolean changed = true;
             for (int pass = 0; changed && pass < MOST_STONES; pass++) {
@@ -964,7 +966,7 @@ public final class BreathSquare {
         }
 
         private int lowestBeside(int c) {
-            int lowest = Integer.MAX_VALUE;
+            int lowest = ABOVE_ALL;
             for (int side = 0; side < SIDES; side++) {
                 int other = paving.neighbour(c, side);
                 if (other != NONE) {

@@ -1,4 +1,5 @@
 import java.io.IOException;
+import java.lang.reflect.Array;
 import java.lang.reflect.Constructor;
 import java.lang.reflect.Field;
 import java.lang.reflect.Member;
@@ -7,7 +8,9 @@ import java.lang.reflect.Modifier;
 import java.nio.file.Files;
 import java.nio.file.Path;
 import java.util.Arrays;
+import java.util.Collections;
 import java.util.HashSet;
+import java.util.IdentityHashMap;
 import java.util.Set;
 import java.util.TreeSet;
 import java.util.regex.Matcher;
@@ -25,6 +28,7 @@ public final class FaceTest {
         constants();
         face();
         classesInside();
+        room();
         words();
         Check.end("FaceTest");
     }
@@ -98,6 +102,36 @@ public final class FaceTest {
         Check.that("at most twenty fields: " + one, own <= 20);
     }
 
+    /** What one object is made of: some thousands of them fit into a run's 600,000 objects, 7.3 million cells. */
+    private static void room() throws IllegalAccessException {
+        Set<Object> objects = Collections.newSetFromMap(new IdentityHashMap<>());
+        int cells = cellsOf(new BreathSquare(), objects);
+        Check.that("at most 60 objects and arrays: " + objects.size(), objects.size() <= 60);
+        Check.that("at most 1000 fields and elements: " + cells, cells <= 1000);
+    }
+
+    private static int cellsOf(Object part, Set<Object> seen) throws IllegalAccessException {
+        if (part == null || !seen.add(part)) {
+            return 0;
+        }
+        int cells = 0;
+        if (part.getClass().isArray()) {
+            cells = Array.getLength(part);
+            for (int k = 0; part instanceof Object[] parts && k < parts.length; k++) {
+                cells += cellsOf(parts[k], seen);
+            }
+        }
+        for (Class<?> of = part.getClass(); of != null && of.getNestHost() == BreathSquare.class; of = of.getSuperclass()) {
+            for (Field field : of.getDeclaredFields()) {
+                if (!Modifier.isStatic(field.getModifiers())) {
+                    field.setAccessible(true);
+                    cells += 1 + (field.getType().isPrimitive() ? 0 : cellsOf(field.get(part), seen));
+                }
+            }
+        }
+        return cells;
+    }
+
     private static void words() throws IOException {
         String text = Files.readString(Path.of("src/main/java/BreathSquare.java"));
         String code = text.replaceAll("(?s)/\\*.*?\\*/", "").replaceAll("//[^\n]*", "");
@@ -108,7 +142,28 @@ public final class FaceTest {
             Check.that("not in the language: " + wrong.group(), false);
         }
         Check.that("plain signs", text.chars().allMatch(sign -> sign == '\n' || sign >= 32 && sign < 127));
+        libraryAsListed(code);
+        objectsAreMadeAtFirst(code);
         methodsStayShort(code);
+    }
+
+    /** Of the library what rule 4 lists, as far as it is used here, and what the document's face has. */
+    private static void libraryAsListed(String code) {
+        Set<String> listed = Set.of("Math.abs", "Math.max", "Math.min", "System.arraycopy", "Long.MIN_VALUE");
+        Matcher used = Pattern.compile("\\b(Integer|Long|Short|Byte|Character|Boolean|Double|Float|Math|StrictMath|"
+                + "System|Arrays|String|StringBuilder|Objects|List|ArrayList)\\b(\\.\\w+)?").matcher(code);
+        while (used.find()) {
+            Check.that("in the library's list: " + used.group(), listed.contains(used.group()));
+        }
+        Check.that("no library by its package's name", !Pattern.compile("\\bjavax?\\.").matcher(code).find());
+    }
+
+    /** All calls of a run live in one room, so only what an object is made of may be made. */
+    private static void objectsAreMadeAtFirst(String code) {
+        for (String line : code.split("\n")) {
+            Check.that("made with its object alone: " + line,
+                    !line.contains("new ") || line.trim().startsWith("private final "));
+        }
     }
 
     /** A method's text goes from a line that opens it to the brace at the same depth. */
